@@ -1,6 +1,6 @@
 import java.nio.charset.StandardCharsets;
 
-/** What the tests share. In a source a ^ marks the place that is due; it is not fed. */
+/** What the tests share. In a source a ^ (which is not fed) marks the place that is due: the word behind it. */
 final class Check {
     static final int NONE = TaggedPascal.NONE;
     private static int wrong;
@@ -78,6 +78,9 @@ final class Check {
     static void refuses(int fault, String marked) {
         int place = marked.indexOf('^');
         String source = marked.replace("^", "");
+        while (place < source.length() && source.charAt(place) == ' ') {
+            place++;
+        }
         TaggedPascal machine = new TaggedPascal();
         feed(machine, source);
         due("compile of " + marked, machine.compile(), NONE);
