@@ -726,7 +726,6 @@ public final class TaggedPascal {
             name.code = code;
             name.sort = Name.PENDING;
             name.level = level;
-            name.byReference = false;
             return name;
         }
 
@@ -812,7 +811,6 @@ public final class TaggedPascal {
         void clear() {
             length = 0;
             origin = NONE;
-            frame = HEADER;
             routines = 0;
         }
 
@@ -1266,11 +1264,11 @@ public final class TaggedPascal {
                     reading(depth);
                     break;
                 case Words.WRITE:
-                    begin();
+                    step();
                     items(depth);
                     break;
                 case Words.WRITELN:
-                    begin();
+                    step();
                     if (words.is(Words.OPEN)) {
                         items(depth);
                     }
@@ -1281,7 +1279,7 @@ public final class TaggedPascal {
             }
         }
 
-        private void begin() {
+        private void step() {
             code.emit(Code.STEP);
             words.next();
         }
@@ -1313,7 +1311,7 @@ public final class TaggedPascal {
         }
 
         private void choiceOfTwo(int depth) {
-            begin();
+            step();
             condition(depth);
             words.take(Words.THEN);
             int otherwise = code.emitAimless(Code.JUMP_FALSE, NONE);
@@ -1329,7 +1327,7 @@ public final class TaggedPascal {
         }
 
         private void whileLoop(int depth) {
-            begin();
+            step();
             int again = code.length();
             condition(depth);
             words.take(Words.DO);
@@ -1341,7 +1339,7 @@ public final class TaggedPascal {
         }
 
         private void repeatLoop(int depth) {
-            begin();
+            step();
             int again = code.length();
             code.emit(Code.STEP);
             sequence(depth + 1);
@@ -1351,7 +1349,7 @@ public final class TaggedPascal {
         }
 
         private void forLoop(int depth) {
-            begin();
+            step();
             Name name = expressions.known(Name.VARIABLE);
             if (name.type.isArray() || name.type.kind == SET) {
                 words.fail(CANNOT_COME);
@@ -1375,7 +1373,7 @@ public final class TaggedPascal {
         }
 
         private void choiceOfMany(int depth) {
-            begin();
+            step();
             int kind = expressions.expression(depth + 1);
             words.need(kind != SET);
             words.take(Words.OF);
@@ -1422,7 +1420,7 @@ public final class TaggedPascal {
         }
 
         private void reading(int depth) {
-            begin();
+            step();
             words.take(Words.OPEN);
             boolean more = true;
             for (int i = 0; i < TAPE_ROOM && more; i++) {
@@ -1696,6 +1694,8 @@ public final class TaggedPascal {
         private static final int ROOM = 6;
         private static final int OUT_OF_STEPS = 7;
 
+        private static final int UNWRITTEN = 0;
+        private static final int WRITTEN = 1;
         private static final int CELL_ROOM = 3000;
         private static final int BLOCK_ROOM = 200;
         private static final int FIRST_STACK = 512;
@@ -1709,7 +1709,7 @@ public final class TaggedPascal {
         private final Tape entered;
         private final Tape output = new Tape();
         private final long[] cells = new long[CELL_ROOM];
-        private final boolean[] defined = new boolean[CELL_ROOM];
+        private final byte[] marks = new byte[CELL_ROOM];
         private long[] stack = new long[FIRST_STACK];
         private int height;
         private int base;
@@ -1809,7 +1809,10 @@ public final class TaggedPascal {
         }
 
         private long pop() {
-            height = Math.max(height - 1, 0);
+            if (height <= 0 || height > stack.length) {
+                return 0;
+            }
+            height--;
             return stack[height];
         }
 
@@ -1828,29 +1831,27 @@ public final class TaggedPascal {
         }
 
         private boolean isDefined(long address) {
-            return isCell(address) && defined[(int) address];
+            return isCell(address) && marks[(int) address] == WRITTEN;
         }
 
         private void put(long address, long value) {
             if (isCell(address)) {
                 cells[(int) address] = value;
-                defined[(int) address] = true;
+                marks[(int) address] = WRITTEN;
             }
         }
 
         private void forget(long address) {
             if (isCell(address)) {
-                defined[(int) address] = false;
+                marks[(int) address] = UNWRITTEN;
             }
         }
 
         private boolean enter(int outward, int size) {
-            if (blocks >= BLOCK_ROOM || size > CELL_ROOM - top) {
+            if (blocks >= BLOCK_ROOM || size < 0 || size > CELL_ROOM - top) {
                 return false;
             }
-            for (int i = top; i < top + size; i++) {
-                forget(i);
-            }
+            Arrays.fill(marks, top, top + size, (byte) UNWRITTEN);
             put(top + LINK_OUTWARD, outward);
             put(top + LINK_BACK, base);
             put(top + GOES_ON, next);

@@ -2,6 +2,7 @@
 public final class DeclarationsTest {
     public static void main(String[] args) {
         compileAnswers();
+        compileAgain();
         programs();
         constants();
         ranges();
@@ -43,6 +44,29 @@ public final class DeclarationsTest {
         Check.due("compile: place is NONE again", machine.place(), -1);
         Check.due("compile: run the new one", machine.run(9), 0);
         Check.due("compile: what the new one writes", Check.output(machine), "2");
+    }
+
+    /** Nothing of a tape with a fault is left for the next one. */
+    private static void compileAgain() {
+        TaggedPascal machine = new TaggedPascal();
+        String[] faulty = {
+            nested(5, "var a,b,c:integer;begin ?"),
+            "var a:integer;begin case 1 of 1,2,3:case 1 of 4,5,6:?",
+            "var " + names(100) + ":integer;procedure p(" + names(5) + ":integer);begin ?",
+            "procedure p;begin end;procedure q;begin end;begin while true do write(p",
+        };
+        String fine = "var " + names(100) + ":integer;procedure p;var a0:integer;procedure q;begin a0:=7 end;"
+            + "begin q;case 2 of 1,2,3,4,5,6:write(a0)end end;begin p;a0:=1;write(a0)end.";
+        for (int k = 0; k < faulty.length; k++) {
+            machine.wipe();
+            Check.feed(machine, faulty[k]);
+            Check.due("compile of a fault, " + k, machine.compile(), -1);
+            machine.wipe();
+            Check.feed(machine, fine);
+            Check.due("compile behind a fault, " + k, machine.compile(), 2);
+            Check.due("run behind a fault, " + k, machine.run(99), 0);
+            Check.due("output behind a fault, " + k, Check.output(machine), "71");
+        }
     }
 
     private static void programs() {

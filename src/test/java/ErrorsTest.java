@@ -7,6 +7,7 @@ public final class ErrorsTest {
         noCase();
         badInput();
         roomForBlocks();
+        toldAnew();
         roomForBytes();
         outOfSteps();
         stepsCounted();
@@ -157,6 +158,26 @@ public final class ErrorsTest {
             + "procedure p(x,y:r);begin end;begin ^p(1,3)end.");
         machine = Check.runs(0, "procedure p(n:integer);begin if n>1 then p(n-1)end;begin p(199);p(199)end.");
         Check.told(machine, "200 blocks twice", 2 + 2 * (199 + 198), 200, 999, 0);
+    }
+
+    private static void toldAnew() {
+        TaggedPascal machine = Check.compiled("var c:char;procedure p(n:integer);begin if n>0 then p(n-1)end;"
+            + "begin p(9);read(c);write(c)end.", "q");
+        Check.due("told anew: run", machine.run(99), 0);
+        Check.told(machine, "ten calls", 22, 11, 55, 1);
+        machine.wipe();
+        Check.feed(machine, "begin end.");
+        machine.compile();
+        Check.due("told anew: run of nothing", machine.run(99), 0);
+        Check.told(machine, "nothing", 0, 1, 4, 0);
+        machine.run(99);
+        machine.wipe();
+        Check.feed(machine, "type r=array[1..500]of char;var a,b,c,d,e,f:r;begin write(1)end.");
+        machine.compile();
+        Check.due("told anew: no room", machine.run(99), 6);
+        Check.told(machine, "no room", 0, 0, 0, 0);
+        Check.due("told anew: nothing written", machine.written(), 0);
+        Check.due("told anew: nowhere", machine.where(), -1);
     }
 
     private static void roomForBytes() {

@@ -15,6 +15,7 @@ public final class RunningTest {
         nestedBlocks();
         reading();
         runAgain();
+        longPrograms();
         Check.finish();
     }
 
@@ -178,6 +179,17 @@ public final class RunningTest {
         Check.runs(0, "var v:array[1..3]of 0..5;i:integer;begin read(i,v[i],v[i+1]);write(v[2],v[3])end.", "2 4 5", "45");
         Check.runs(0, "var c:'a'..'c';begin read(c);write(c)end.", "b", "b");
         Check.runs(0, "var c:char;begin read(c,c);write(ord(c))end.", "\0\377", "255");
+    }
+
+    private static void longPrograms() {
+        String calls = Check.repeated("p;", 450);
+        TaggedPascal machine = Check.runs(2, "var i:integer;procedure p;begin i:=i+1 end;begin i:=0;" + calls
+            + "write(i);^write(1 div 0)end.", "", "450");
+        Check.due("steps of a long program", machine.told(0), 903);
+        Check.writes("function f(n:integer):integer;begin if n=0 then f:=0 else f:=1+(2+(3+(4+(5*(1+(n-n+f(n-1)))))))end;"
+            + "begin write(f(5))end.", String.valueOf(15 * (1 + 5 + 25 + 125 + 625)));
+        Check.writes("function f(a,b,c,d,n:integer):integer;begin if n=0 then f:=a else f:=f(a+1,b,c,d,n-1)+b-c*f(0,0,0,0,0)"
+            + " end;begin write(f(1,2,3,4,190))end.", String.valueOf(191 + 2 * 190));
     }
 
     private static void runAgain() {

@@ -323,6 +323,13 @@ public final class StatementsTest {
         Check.accepts("begin write(1 in " + nest("[ord(1 in ", 8) + "[1..2,3]" + nest(")]", 8) + ")end.");
         Check.accepts("begin write(" + nest("(", 18) + "1 in []" + nest(")", 18) + ")end.");
         Check.refuses(5, "begin write(" + nest("(", 18) + "1 in [^1");
+        Check.accepts("begin write(" + nest("(", 17) + "1 in [1,2..3]" + nest(")", 17) + ")end.");
+        Check.refuses(5, "begin write(" + nest("(", 17) + "1 in [1..(^2)])");
+        Check.accepts("var i:integer;begin " + nest("begin ", 18) + "i:=1" + nest(" end", 19) + ".");
+        Check.accepts(1, "procedure p(x:integer);begin end;begin " + nest("begin ", 18) + "p(1)" + nest(" end", 19) + ".");
+        Check.accepts("begin " + nest("begin ", 18) + "if true then else" + nest(" end", 19) + ".");
+        Check.accepts("var i:integer;begin " + nest("begin ", 18) + "for i:=1 to 2 do" + nest(" end", 19) + ".");
+        Check.accepts("begin " + nest("begin ", 18) + "case 1 of 1:end" + nest(" end", 19) + ".");
         Check.refuses(5, "begin " + nest("repeat ", 20) + "^until true");
         Check.refuses(5, "begin " + nest("while true do ", 19) + "while ^true do");
         Check.refuses(5, "begin " + nest("if true then else ", 19) + "if ^true then");

@@ -35,6 +35,7 @@ public final class WordsTest {
         Check.accepts("var a1,a2,a:integer;begin a1:=1;a2:=2;a:=3 end.");
         Check.accepts("var beginx,ende:integer;begin beginx:=1;ende:=2 end.");
         Check.refuses(2, "var abcdefghijk1:integer;begin ^abcdefghijk2:=1 end.");
+        Check.accepts("var az,a0,a,z,aa,a1,zz,a9,zzzzzzzzzzzz,zzzzzzzzzzz9,a99999999999,b00000000000:integer;begin end.");
         Check.refuses(1, "var ^end:integer;begin end.");
         Check.refuses(1, "var a^_b:integer;begin end.");
         Check.refuses(5, "begin end. ^aaaaaaaaaaaaa");
@@ -96,6 +97,10 @@ public final class WordsTest {
         Check.refuses(1, "begin if 1 ^? end.");
         Check.refuses(5, "begin if 1 ^2147483648 end.");
         Check.refuses(5, "begin if 1 ^aaaaaaaaaaaaa end.");
+        Check.refuses(1, "begin if 1 ^'' end.");
+        Check.refuses(1, "begin if 1 ^'a end.");
+        Check.refuses(1, "begin if 1 ^{ end.");
+        Check.refuses(4, "begin if 1 ^'ab' end.");
         Check.refuses(4, "begin if 1 ^then ? end.");
         Check.refuses(4, "begin if 1 ^x end.");
         Check.refuses(4, "begin if 1 ^");
