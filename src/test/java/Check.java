@@ -81,17 +81,27 @@ final class Check {
         while (place < source.length() && source.charAt(place) == ' ') {
             place++;
         }
-        TaggedPascal machine = new TaggedPascal();
-        feed(machine, source);
-        due("compile of " + marked, machine.compile(), NONE);
-        due("fault of " + marked, machine.fault(), fault);
-        due("place of " + marked, machine.place(), place);
+        refusesAt(fault, place, source);
     }
 
+    /** For sources whose place is better told by its number. */
+    static void refusesAt(int fault, int place, String source) {
+        TaggedPascal machine = new TaggedPascal();
+        feed(machine, source);
+        due("compile of " + source, machine.compile(), NONE);
+        due("fault of " + source, machine.fault(), fault);
+        due("place of " + source, machine.place(), place);
+    }
+
+    /** Eight bytes a call: an object is good for 512 calls. */
     static String output(TaggedPascal machine) {
         StringBuilder text = new StringBuilder();
-        for (int i = 0; i < machine.written(); i++) {
-            text.append((char) (machine.text(i) & 255));
+        int written = machine.written();
+        for (int i = 0; i < written; i += 8) {
+            long eight = machine.text(i);
+            for (int k = 0; k < 8 && i + k < written; k++) {
+                text.append((char) (eight >>> (8 * k) & 255));
+            }
         }
         return text.toString();
     }
@@ -111,6 +121,13 @@ final class Check {
 
     static void writes(String source, String written) {
         runs(0, source, "", written);
+    }
+
+    /** Runs with so many steps and no more. */
+    static TaggedPascal stops(int steps, int answer, String source) {
+        TaggedPascal machine = compiled(source);
+        due("run(" + steps + ") of " + source, machine.run(steps), answer);
+        return machine;
     }
 
     /** The statements run with i, j integers; a, b booleans; c a char; s, t sets; r 1..9; v an array. */
@@ -155,5 +172,19 @@ final class Check {
 
     static String repeated(String piece, int times) {
         return piece.repeat(times);
+    }
+
+    /** So many names, a0 the first, with commas between. */
+    static String names(int count) {
+        StringBuilder text = new StringBuilder();
+        for (int i = 0; i < count; i++) {
+            text.append(i == 0 ? "" : ",").append("a").append(i);
+        }
+        return text.toString();
+    }
+
+    /** So many procedures within one another, each with the inner one alone, the innermost with what is given. */
+    static String nested(int count, String innermost) {
+        return count == 0 ? innermost : "procedure p;" + nested(count - 1, innermost) + "begin end;";
     }
 }

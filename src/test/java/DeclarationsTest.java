@@ -50,12 +50,12 @@ public final class DeclarationsTest {
     private static void compileAgain() {
         TaggedPascal machine = new TaggedPascal();
         String[] faulty = {
-            nested(5, "var a,b,c:integer;begin ?"),
+            Check.nested(5, "var a,b,c:integer;begin ?"),
             "var a:integer;begin case 1 of 1,2,3:case 1 of 4,5,6:?",
-            "var " + names(100) + ":integer;procedure p(" + names(5) + ":integer);begin ?",
+            "var " + Check.names(100) + ":integer;procedure p(" + Check.names(5) + ":integer);begin ?",
             "procedure p;begin end;procedure q;begin end;begin while true do write(p",
         };
-        String fine = "var " + names(100) + ":integer;procedure p;var a0:integer;procedure q;begin a0:=7 end;"
+        String fine = "var " + Check.names(100) + ":integer;procedure p;var a0:integer;procedure q;begin a0:=7 end;"
             + "begin q;case 2 of 1,2,3,4,5,6:write(a0)end end;begin p;a0:=1;write(a0)end.";
         for (int k = 0; k < faulty.length; k++) {
             machine.wipe();
@@ -253,34 +253,22 @@ public final class DeclarationsTest {
     }
 
     private static void tooMuch() {
-        Check.accepts("var " + names(120) + ":integer;begin end.");
-        Check.refuses(5, "var " + names(120) + ",^z:integer;begin end.");
-        Check.refuses(3, "var " + names(120) + ",^a0:integer;begin end.");
-        Check.refuses(5, "var " + names(120) + ":integer;procedure ^p;begin end;begin end.");
-        Check.refuses(5, "var " + names(119) + ":integer;procedure p(^a:integer);begin end;begin end.");
-        Check.accepts(2, "var " + names(115) + ":integer;procedure p(a,b,c:integer);var d:integer;begin end;"
+        Check.accepts("var " + Check.names(120) + ":integer;begin end.");
+        Check.refuses(5, "var " + Check.names(120) + ",^z:integer;begin end.");
+        Check.refuses(3, "var " + Check.names(120) + ",^a0:integer;begin end.");
+        Check.refuses(5, "var " + Check.names(120) + ":integer;procedure ^p;begin end;begin end.");
+        Check.refuses(5, "var " + Check.names(119) + ":integer;procedure p(^a:integer);begin end;begin end.");
+        Check.accepts(2, "var " + Check.names(115) + ":integer;procedure p(a,b,c:integer);var d:integer;begin end;"
             + "procedure q;var a,b,c:char;begin end;begin end.");
-        Check.refuses(5, "var " + names(115) + ":integer;procedure p(a,b,c:integer);var d:integer;begin end;"
+        Check.refuses(5, "var " + Check.names(115) + ":integer;procedure p(a,b,c:integer);var d:integer;begin end;"
             + "procedure q;var a,b,c,^d:char;begin end;begin end.");
         Check.accepts(1, "procedure p(a,b,c,d:integer;e,f,g,h:char);begin end;begin end.");
         Check.refuses(5, "procedure p(a,b,c,d,e,f,g,h,^i:integer);begin end;begin end.");
         Check.refuses(5, "procedure p(a,b,c,d:integer;e,f,g:char;h:char;var ^i:integer);begin end;begin end.");
         Check.refuses(3, "procedure p(a,b,c,d,e,f,g,h,^a:integer);begin end;begin end.");
         Check.refuses(1, "procedure p(a,b,c,d,e,f,g,h,^1:integer);begin end;begin end.");
-        Check.accepts(5, nested(5, "") + "begin end.");
-        Check.refuses(5, nested(5, "^procedure g;begin end;") + "begin end.");
-        Check.refuses(5, nested(5, "^function ") + "begin end.");
-    }
-
-    private static String names(int count) {
-        StringBuilder text = new StringBuilder();
-        for (int i = 0; i < count; i++) {
-            text.append(i == 0 ? "" : ",").append("a").append(i);
-        }
-        return text.toString();
-    }
-
-    private static String nested(int count, String innermost) {
-        return count == 0 ? innermost : "procedure p;" + nested(count - 1, innermost) + "begin end;";
+        Check.accepts(5, Check.nested(5, "") + "begin end.");
+        Check.refuses(5, Check.nested(5, "^procedure g;begin end;") + "begin end.");
+        Check.refuses(5, Check.nested(5, "^function ") + "begin end.");
     }
 }
