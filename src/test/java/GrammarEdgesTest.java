@@ -560,6 +560,7 @@ public final class GrammarEdgesTest {
     /** "and hides others". */
     private static void namesHideOthers() {
         Check.writes("var a:integer;procedure p;var a:char;begin a:='x';write(a)end;begin a:=1;p;write(a)end.", "x1");
+        Check.writes("var a:integer;procedure q;begin write(a)end;procedure p;var a:integer;begin a:=2;q end;begin a:=1;p end.", "1");
         Check.writes("const a=1;procedure p(a:char);begin write(a)end;begin p('y');write(a)end.", "y1");
         Check.writes("procedure a;begin write('o')end;procedure p;procedure a;begin write('i')end;begin a end;begin p;a end.", "io");
         Check.refuses(1, "type a=1..2;procedure p;var a:integer;b:^a;begin end;begin end.");

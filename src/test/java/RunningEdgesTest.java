@@ -38,6 +38,7 @@ public final class RunningEdgesTest {
         fourCells();
         cellsOfAllThatRun();
         blocksThatRun();
+        muchAtOnce();
         bytesWritten();
         whatIsWritten();
         endsOfInput();
@@ -242,6 +243,9 @@ public final class RunningEdgesTest {
         Check.does("write(7 div 2,' ',-7 div 2,' ',7 div(-2),' ',-7 div(-2),' ',1 div 2,' ',-1 div 2)", "3 -3 -3 3 0 0");
         Check.does("i:=-7;j:=-2;write(i div 2,' ',i div j,' ',7 div j,' ',i mod 2,' ',i mod j,' ',7 mod j)", "-3 3 -3 -1 -1 1");
         Check.does("i:=-6;write(i mod 3,i mod 4,6 mod 4,0 mod 5,0 div 5)", "0-2200");
+        Check.does("write(2+3*4,' ',2*3+4,' ',2-3-4,' ',24 div 4 div 2,' ',-2+3,' ',-2-3*2,' ',7-2*3 mod 4)", "14 10 -5 3 1 -8 5");
+        Check.does("s:=[1,2,3]-[2]*[3];write(s=[1,2,3]);s:=[1]+[2]-[1];write(s=[2]);write(1+1 in[2],true or true and false)",
+            "truetruetruetrue");
         Check.does("for i:=-9 to 9 do for j:=1 to 4 do if(i div j*j+i mod j<>i)or(abs(i mod j)>=j)then write('x')", "");
     }
 
@@ -379,6 +383,10 @@ public final class RunningEdgesTest {
         Check.runs(3, "var c:'b'..'d';begin ^read(c)end.", "a", "");
         Check.runs(3, "var c:'b'..'d';begin ^read(c)end.", "e", "");
         Check.runs(0, "var r:-2..3;c:'b'..'d';begin read(r,c);write(r,c);read(r,c);write(r,c)end.", "-2b 3d", "-2b3d");
+        Check.runs(3, "var v:array[1..2]of 0..5;begin read(v[1]);^read(v[2])end.", "5 6", "");
+        Check.runs(3, "type k=0..5;var r:k;procedure p(var x:k);begin ^read(x)end;begin p(r)end.", "6", "");
+        Check.runs(3, "type k=0..5;procedure p(x:k);begin x:=5;^x:=6 end;begin p(1)end.");
+        Check.runs(3, "type k=0..5;function f:k;procedure p;begin f:=5;^f:=6 end;begin p end;begin write(f)end.");
         Check.due("read outside: the bytes are read", Check.runs(3, read, " 44 5", "").told(3), 3);
         Check.runs(0, "type k=1..2;var i:integer;r:k;begin r:=2;i:=r+1;write(i,succ(r),r*5)end.", "", "3310");
     }
@@ -446,6 +454,12 @@ public final class RunningEdgesTest {
 
     /** "5 read, where there is no byte any more". */
     private static void noByteAnyMore() {
+        StringBuilder all = new StringBuilder();
+        for (int b = 0; b <= 255; b++) {
+            all.append((char) b);
+        }
+        Check.runs(0, "var c:char;i:integer;begin for i:=0 to 255 do begin read(c);if ord(c)<>i then write(i)end;write(eof)end.",
+            all.toString(), "true");
         badRead("var c:char;begin ^read(c)end.", "", 0);
         badRead("var c:char;begin read(c);^read(c)end.", "a", 1);
         badRead("var c:char;begin ^read(c,c,c)end.", "ab", 2);
@@ -580,6 +594,21 @@ public final class RunningEdgesTest {
         Check.told(Check.runs(6, value.replace("@", "200")), "201 functions", 399, 200, 999, 0);
         Check.runs(6, "procedure p;begin ^p end;begin p end.");
         Check.told(Check.runs(6, "procedure p;procedure q;begin p end;begin ^q end;begin p end."), "in turn", 200, 200, 800, 0);
+    }
+
+    /** Blocks, cells and bytes are all the room there is: what is half worked out, or counted by a for, needs none. */
+    private static void muchAtOnce() {
+        Check.writes("function f(n:integer):integer;begin if n=0 then f:=0 else f:=" + Check.repeated("1+1*(", 15) + "f(n-1)"
+            + Check.repeated(")", 15) + " end;begin write(f(198))end.", "2970");
+        Check.writes("function f(n:integer):integer;begin if n=0 then f:=0 else f:=1+f(n-1)+0*(1+(2*(3-(4+n))))end;"
+            + "begin write(f(198)+f(198))end.", "396");
+        String loops = Check.repeated("for i:=1 to 1 do ", 15);
+        Check.told(Check.runs(0, "procedure p(n:integer);var i:integer;begin " + loops + "if n>1 then p(n-1)else write('e')end;"
+            + "begin p(199)end.", "", "e"), "loops within one another", 1 + 199 * 32, 200, 1198, 0);
+        Check.runs(2, "procedure p(n:integer);var i:integer;begin " + loops + "if n>1 then p(n-1)else ^write(1 div 0)end;"
+            + "begin p(199)end.");
+        Check.writes("type s=set;function f(n:integer):s;begin if n=0 then f:=[63]else f:=[0]+([1]+([2]+f(n-1)))end;"
+            + "begin write(f(198)=[0..2,63])end.", "true");
     }
 
     /** "1500 bytes written (what comes before that is)". */

@@ -107,6 +107,8 @@ public final class WordEdgesTest {
         Check.refuses(1, "begin end.{}^{{");
         Check.refuses(1, "^{");
         Check.refuses(1, "^}begin end.");
+        Check.refuses(1, "begin ^(* x *) end.");
+        Check.refuses(1, "begin ^// end.");
         Check.refusesAt(1, 2, "{}");
         Check.refusesAt(1, 9, " {begin} ");
     }
@@ -165,6 +167,10 @@ public final class WordEdgesTest {
             Check.refuses(5, "const a=-^" + number + ";begin end.");
             Check.refuses(5, "begin ^" + number);
         }
+        Check.refuses(1, "begin write(1^.5)end.");
+        Check.refuses(1, "begin write(^.5)end.");
+        Check.refuses(1, "begin write(1^e5)end.");
+        Check.refuses(1, "begin write(^$5)end.");
         Check.writes("begin write(0,00,007,000000000000000000002147483647," + Check.repeated("0", 900) + "9)end.",
             "00721474836479");
     }
