@@ -126,6 +126,7 @@ public final class WordEdgesTest {
         }
         Check.accepts("var " + one + "," + two + ":char;begin end.");
         Check.accepts("var a0123456789,z9876543210,z00,z0,z:integer;begin z00:=1;z0:=2;z:=3 end.");
+        Check.writes("const ag0=1;abr=2;a1=3;a01=4;b=5;aa0=6;z=7;a0=8;begin write(ag0,abr,a1,a01,b,aa0,z,a0)end.", "12345678");
         for (char c = '0'; c <= '9'; c++) {
             Check.refuses(1, "var ^" + c + "a:integer;begin end.");
             Check.refuses(2, "begin ^a" + c + ":=1 end.");
